@@ -27,7 +27,8 @@ public final class SharedText {
     private final int[] deletions = new int[MOST_EVENTS];
     private int made = 0;
 
-    // All elements that any replica put in, in THE ORDER.
+    // All elements that any replica put in, in THE ORDER. An index is a spot in this list,
+    // a place is one in the text of a replica.
     private final int[] order = new int[MOST_EVENTS];
     private int placed = 0;
 
@@ -40,7 +41,7 @@ public final class SharedText {
         }
         int parent = NONE;
         if (p > 0) {
-            parent = elementAt(x, p - 1);
+            parent = indexAt(x, p - 1);
             if (parent == NONE) {
                 return BAD;
             }
@@ -52,7 +53,7 @@ public final class SharedText {
         clockOf[x]++;
         symbol[e] = s;
         time[e] = clockOf[x];
-        placeAfter(parent, e);
+        placeBehind(parent, e);
         return e;
     }
 
@@ -60,15 +61,15 @@ public final class SharedText {
         if (!isReplica(x)) {
             return BAD;
         }
-        int element = elementAt(x, p);
-        if (element == NONE) {
+        int index = indexAt(x, p);
+        if (index == NONE) {
             return BAD;
         }
         if (made >= MOST_EVENTS) {
             return FULL;
         }
         int e = makeEvent(x);
-        deletions[element] |= 1 << e;
+        deletions[order[index]] |= 1 << e;
         return e;
     }
 
@@ -133,16 +134,16 @@ public final class SharedText {
         if (!isReplica(x)) {
             return BAD;
         }
-        int element = elementAt(x, p);
-        return element == NONE ? BAD : symbol[element];
+        int index = indexAt(x, p);
+        return index == NONE ? BAD : symbol[order[index]];
     }
 
     public int madeBy(int x, int p) {
         if (!isReplica(x)) {
             return BAD;
         }
-        int element = elementAt(x, p);
-        return element == NONE ? BAD : element;
+        int index = indexAt(x, p);
+        return index == NONE ? BAD : order[index];
     }
 
     public int placeOf(int x, int e) {
@@ -202,12 +203,12 @@ public final class SharedText {
         return knows(x, element) && (knownBy[x] & deletions[element]) == 0;
     }
 
-    private int elementAt(int x, int p) {
+    private int indexAt(int x, int p) {
         int place = 0;
         for (int i = 0; i < placed; i++) {
             if (isShown(x, order[i])) {
                 if (place == p) {
-                    return order[i];
+                    return i;
                 }
                 place++;
             }
@@ -232,8 +233,8 @@ public final class SharedText {
         }
     }
 
-    private void placeAfter(int parent, int e) {
-        int spot = spotFor(parent, e);
+    private void placeBehind(int parent, int e) {
+        int spot = spotBehind(parent, e);
         for (int i = placed; i > spot; i--) {
             order[i] = order[i - 1];
         }
@@ -244,20 +245,12 @@ public final class SharedText {
     // What descends from an element has a greater stamp than it. So behind the parent
     // the greater stamps are those of the siblings that come first and of what descends
     // from them, and the first lesser stamp is where they end.
-    private int spotFor(int parent, int e) {
-        int spot = parent == NONE ? 0 : indexOf(parent) + 1;
+    private int spotBehind(int parent, int e) {
+        int spot = parent == NONE ? 0 : parent + 1;
         while (spot < placed && hasGreaterStamp(order[spot], e)) {
             spot++;
         }
         return spot;
-    }
-
-    private int indexOf(int element) {
-        int index = 0;
-        while (index < placed && order[index] != element) {
-            index++;
-        }
-        return index;
     }
 
     private boolean hasGreaterStamp(int a, int b) {

@@ -291,6 +291,8 @@ public final class PromisesTest {
         t.catchUp(2, 0);
         due("3: erase(0, 0)", t.erase(0, 0), 2);
         due("3: erase(1, 0)", t.erase(1, 0), 3);
+        dueText("3: still deleted at 0", t, 0, "b");
+        dueText("3: deleted at 1", t, 1, "b");
         dueText("3: 2 does not know of it", t, 2, "ab");
         due("3: learn the second deletion alone", t.learn(2, 1, 3), 1);
         dueText("3: the second deletion alone", t, 2, "b");
